@@ -224,11 +224,10 @@ public final class AloneRooms {
         if (judge() != NONE) {
             return refuse(NO);
         }
-        int from = house.where;
+        trial.copy(house);
         int laid = 0;
         for (int i = 0; i < house.planned; i++) {
-            laid += Integer.bitCount(house.payers(from, house.plan[i], house.beats + 1 + i, laws[law]));
-            from = house.plan[i];
+            laid += trial.go(house.plan[i], laws[law]);
         }
         return laid;
     }
@@ -511,6 +510,11 @@ public final class AloneRooms {
             return !(stayed && wasAlone);
         }
 
+        /** Whether odd and even beats differ. */
+        boolean mindsBeats() {
+            return false;
+        }
+
         /** What of the pennies gathered goes to the eldest other one. */
         int share(int gathered) {
             return 0;
@@ -532,6 +536,10 @@ public final class AloneRooms {
     private static final class Sleep extends Each {
         boolean lays(boolean stayed, boolean wasAlone, int beat) {
             return (beat & 1) == 1 && super.lays(stayed, wasAlone, beat);
+        }
+
+        boolean mindsBeats() {
+            return true;
         }
     }
 
@@ -663,15 +671,19 @@ public final class AloneRooms {
             return roomOf(where, person) == room && has(lone(where), person);
         }
 
-        /** Who lays a penny in a beat. */
-        int payers(int from, int to, int beat, Once law) {
-            int behind = lone(to);
-            if (behind == 0) {
-                return 0;
+        /** Who is alone, for all standings: searches ask it of each one many times. */
+        void markLone(int[] lone, Ways ways) {
+            int many = ways.all(this);
+            for (int w = 0; w < many; w++) {
+                lone[ways.at] = lone(ways.at);
+                ways.step();
             }
-            int ahead = lone(from);
+        }
+
+        /** Who lays a penny in a beat, by who is alone ahead of it and behind it. */
+        int payers(int from, int to, int ahead, int behind, int beat, Once law) {
             int payers = 0;
-            for (int p = 0; p < people; p++) {
+            for (int p = 0; p < people && behind >> p != 0; p++) {
                 boolean stayed = roomOf(from, p) == roomOf(to, p);
                 if (has(behind, p) && law.lays(stayed, has(ahead, p), beat)) {
                     payers |= 1 << p;
@@ -684,7 +696,7 @@ public final class AloneRooms {
         int go(int to, Once law) {
             int from = where;
             beats++;
-            int payers = payers(from, to, beats, law);
+            int payers = payers(from, to, lone(from), lone(to), beats, law);
             where = to;
             for (int p = 0; p < people; p++) {
                 if (has(payers, p)) {
@@ -851,6 +863,9 @@ public final class AloneRooms {
         private final int[][] keeping = new int[MOST_WISHES + 1][MOST_PEOPLE];
         /** By beats (1 on, but for the last) and standings, the least that is laid behind them. */
         private final int[][] rest = new int[MOST_WISHES - 1][STANDINGS];
+        /** By beats, the least that any standing's rest is. */
+        private final int[] leastRest = new int[MOST_WISHES + 1];
+        private final int[] lone = new int[STANDINGS];
         private final Ways stands = new Ways();
         private final Ways ways = new Ways();
 
@@ -858,9 +873,11 @@ public final class AloneRooms {
             this.house = house;
             this.law = law;
             this.length = length;
+            house.markLone(lone, ways);
             for (int beat = length; beat >= 1; beat--) {
                 markKeeping(beat);
             }
+            leastRest[length] = 0;
             for (int beat = length - 1; beat >= 1; beat--) {
                 fillRest(beat);
             }
@@ -890,22 +907,27 @@ public final class AloneRooms {
 
         private void fillRest(int beat) {
             int many = stands.among(house, keeping[beat]);
+            int least = NONE;
             for (int w = 0; w < many; w++) {
-                rest[beat - 1][stands.at] = leastFrom(stands.at, beat + 1);
+                int found = leastFrom(stands.at, beat + 1);
+                rest[beat - 1][stands.at] = found;
+                least = least == NONE ? found : Math.min(least, found);
                 stands.step();
             }
+            leastRest[beat] = least;
         }
 
-        /** The least laid from a beat on, and the first standing for it; nothing is less than 0. */
+        /** The least laid from a beat on, and the first standing for it. */
         private int leastFrom(int from, int beat) {
             int many = ways.onwardAmong(house, from, keeping[beat]);
             int least = NONE;
-            for (int w = 0; w < many && least != 0; w++) {
-                int laid = Integer.bitCount(house.payers(from, ways.at, house.beats + beat, law));
-                int total = beat == length ? laid : laid + rest[beat - 1][ways.at];
+            for (int w = 0; w < many && (least == NONE || least > leastRest[beat]); w++) {
+                int to = ways.at;
+                int payers = house.payers(from, to, lone[from], lone[to], house.beats + beat, law);
+                int total = Integer.bitCount(payers) + (beat == length ? 0 : rest[beat - 1][to]);
                 if (least == NONE || total < least) {
                     least = total;
-                    first = ways.at;
+                    first = to;
                 }
                 ways.step();
             }
@@ -915,49 +937,58 @@ public final class AloneRooms {
 
     /** The fewest beats from one standing to another, by which nothing is laid. */
     private static final class Search {
-        /** By odd and even beats, in how many beats a standing is reached; NONE: not yet. */
+        private House house;
+        private Once law;
+        /** In how many beats a standing is reached, NONE: not yet; behind odd beats apart, if the law minds. */
         private final int[][] beatsOf = new int[2][STANDINGS];
-        /** What is reached, as it is reached: twice the standing, and 1 behind odd beats. */
+        /** What is reached, as it is reached: twice the standing, and 1 if it is of those behind odd beats. */
         private final int[] reached = new int[2 * MOST_WAYS];
         private int many;
+        private final int[] lone = new int[STANDINGS];
         private final Ways ways = new Ways();
 
         int beatsTo(House house, Once law, int goal) {
+            this.house = house;
+            this.law = law;
+            house.markLone(lone, ways);
             Arrays.fill(beatsOf[0], NONE);
             Arrays.fill(beatsOf[1], NONE);
             many = 0;
-            reach(house.where, house.beats & 1, 0);
+            reach(house.where, 0);
             for (int i = 0; i < many && i < reached.length; i++) {
-                int standing = reached[i] >> 1;
-                int odd = reached[i] & 1;
-                if (standing == goal) {
-                    return beatsOf[odd][standing];
+                int beats = Math.max(beatsOf[0][goal], beatsOf[1][goal]);
+                if (beats != NONE) {
+                    return beats;
                 }
-                if (beatsOf[odd][standing] < MOST_BEATS) {
-                    spread(house, law, standing, odd);
-                }
+                spread(reached[i] >> 1, beatsOf[reached[i] & 1][reached[i] >> 1] + 1);
             }
-            return NONE;
+            return Math.max(beatsOf[0][goal], beatsOf[1][goal]);
         }
 
-        private void spread(House house, Once law, int from, int odd) {
-            int next = 1 - odd;
-            int beats = beatsOf[odd][from] + 1;
-            int ends = ways.onward(house, from, house.everywhere());
+        private void spread(int from, int beats) {
+            int[] known = beatsOf[sideOf(beats)];
+            int ends = beats > MOST_BEATS ? 0 : ways.onward(house, from, house.everywhere());
             for (int w = 0; w < ends; w++) {
-                if (beatsOf[next][ways.at] == NONE && house.payers(from, ways.at, next, law) == 0) {
-                    reach(ways.at, next, beats);
+                int to = ways.at;
+                if (known[to] == NONE
+                        && house.payers(from, to, lone[from], lone[to], house.beats + beats, law) == 0) {
+                    reach(to, beats);
                 }
                 ways.step();
             }
         }
 
-        private void reach(int standing, int odd, int beats) {
+        private void reach(int standing, int beats) {
             if (many < reached.length) {
-                beatsOf[odd][standing] = beats;
-                reached[many] = 2 * standing + odd;
+                beatsOf[sideOf(beats)][standing] = beats;
+                reached[many] = 2 * standing + sideOf(beats);
                 many++;
             }
+        }
+
+        /** 1 behind odd beats, if the law minds; else 0. */
+        private int sideOf(int beats) {
+            return law.mindsBeats() ? house.beats + beats & 1 : 0;
         }
     }
 

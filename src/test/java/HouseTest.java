@@ -50,7 +50,8 @@ public final class HouseTest {
         Check.type(x, "abc");
         x.spy(0, 7);
         x.plan(0);
-        x.beat(Check.at(0, 0));
+        x.beat(Check.at(1, 0));
+        check.duePurses(x, -1, -1);
         x.image(1);
         x.rooms(7);
         check.due("rooms(4)", x.rooms(4), 4);
@@ -60,6 +61,7 @@ public final class HouseTest {
         check.due("digest() behind rooms", x.digest(), Check.digestOf(v));
         check.dueStatus(x, 1, 0, 0);
         check.due("person(0)", x.person(0), 0);
+        check.due("purse(0) of a new one", x.purse(0), 0);
         check.due("wish that was", x.wish(0, 1, AloneRooms.NONE), AloneRooms.NONE);
         check.due("undo()", x.undo(), AloneRooms.NO);
         check.due("from(1)", x.from(1), 1);
@@ -176,5 +178,20 @@ public final class HouseTest {
         check.dueStatus(x, 7, 0, 0);
         x.beat(0);
         check.due("a wish stays behind a beat", x.wish(0, 4, 2), 2);
+        promise8WishesOfAll();
+    }
+
+    private static void promise8WishesOfAll() {
+        AloneRooms x = Check.house("rooms 5;person 0;person 0;person 0;person 0;");
+        for (int p = 0; p < 4; p++) {
+            for (int h = 1; h <= 4; h++) {
+                check.due("wish(" + p + ", " + h + ", ..)", x.wish(p, h, (3 * p + h) % 5), AloneRooms.NONE);
+            }
+        }
+        for (int p = 0; p < 4; p++) {
+            for (int h = 1; h <= 4; h++) {
+                check.due("wish(" + p + ", " + h + ", NONE)", x.wish(p, h, AloneRooms.NONE), (3 * p + h) % 5);
+            }
+        }
     }
 }

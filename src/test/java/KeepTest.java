@@ -86,6 +86,27 @@ public final class KeepTest {
         x.from(0);
         check.due("the image is not touched", x.count(6), 2);
         check.duePurses(x, -2);
+        x.undo();
+        x.undo();
+        x.lay(1, 77);
+        x.beat(1);
+        x.beat(0);
+        x.from(0);
+        check.due("undo() of the image's own beats", x.undo(), 1);
+        check.due("standing()", x.standing(), 1);
+        check.due("undo()", x.undo(), 1);
+        check.dueSills(x, 0, 0, 0);
+        x.from(0);
+        x.scrap();
+        x.plan(1);
+        x.plan(2);
+        long planned = x.digest();
+        x.image(1);
+        x.scrap();
+        x.plan(0);
+        x.plan(0);
+        x.from(1);
+        check.due("the plan of the image", x.digest(), planned);
     }
 
     private static void promise34Status() {

@@ -89,6 +89,15 @@ public final class PlanTest {
         check.due("cost(0)", x.cost(0), AloneRooms.NO);
         check.due("cost(5): BAD ahead of NO", x.cost(5), AloneRooms.BAD);
         check.dueStatus(x, 3, 1, 0);
+        x.scrap();
+        x.plan(Check.at(0, 0));
+        check.due("cost(1): what was scrapped is gone", x.cost(1), 0);
+        for (int i = 2; i <= 8; i++) {
+            x.plan(Check.at(0, 1 - i % 2));
+        }
+        check.due("cost(1) of eight", x.cost(1), 8);
+        check.due("cost(0) of eight", x.cost(0), 8);
+        check.due("cost(4) of eight", x.cost(4), 4);
     }
 
     private static void dueLeast(AloneRooms x, int h, int least, int... rows) {
@@ -111,6 +120,12 @@ public final class PlanTest {
         dueLeast(apart, 2, 0, Check.at(1, 1), Check.at(0, 0));
         apart.door(1, 2, false);
         dueLeast(apart, 2, 4, Check.at(0, 2), Check.at(0, 2));
+        AloneRooms four = Check.house("rooms 5;door 0 1;door 1 2;door 2 3;door 3 4;person 0;person 1;person 3;person 4;");
+        dueLeast(four, 1, 0, Check.at(0, 0, 3, 3));
+        four.wish(0, 4, 4);
+        four.wish(3, 3, 4);
+        four.wish(2, 2, 4);
+        dueLeast(four, 4, 0, Check.at(1, 1, 3, 3), Check.at(2, 2, 4, 4), Check.at(3, 3, 4, 4), Check.at(4, 3, 3, 4));
         check.due("standing()", apart.standing(), Check.at(0, 2));
         check.due("count(4)", apart.count(4), 0);
     }
@@ -167,6 +182,9 @@ public final class PlanTest {
         x.cat(2, true);
         x.cat(3, true);
         check.due("fewest: to cats", x.fewest(Check.at(3, 2)), 3);
+        AloneRooms four = Check.house("rooms 5;door 0 1;door 1 2;door 2 3;door 3 4;person 0;person 0;person 4;person 4;");
+        check.due("fewest: they change places", four.fewest(Check.at(4, 4, 0, 0)), 4);
+        check.due("fewest: others meet", four.fewest(Check.at(2, 3, 3, 2)), 3);
         x.door(0, 1, false);
         check.due("fewest: no way", x.fewest(Check.at(3, 3)), AloneRooms.NONE);
         check.due("fewest(-1)", x.fewest(-1), AloneRooms.BAD);
@@ -308,6 +326,16 @@ public final class PlanTest {
         check.due("join(1): the cat's room", cats.join(1), 14);
         AloneRooms doors = Check.house("rooms 5;door 3 4;person 1;person 4;law 1;");
         check.due("join(1): a room of doors", doors.join(1), 13);
+        AloneRooms away = Check.house("rooms 5;door 3 4;cat 4;person 1;law 1;wish 0 1 4;");
+        check.due("join(1): away through the other one's door", away.join(1), 13);
+        AloneRooms into = Check.house("rooms 5;door 4 3;door 4 0;cat 3;cat 4;person 4;law 1;wish 0 1 1;wish 0 2 4;wish 0 3 0;");
+        check.due("join(3): into it through the other one's door, and others stay", into.join(3), 13);
+        AloneRooms lowest = Check.house("rooms 5;door 0 3;door 0 1;cat 0;cat 1;cat 2;person 0;law 1;wish 0 1 2;wish 0 2 1;");
+        check.due("join(1): from room 0", lowest.join(1), 2);
+        check.due("join(2): then through a door", lowest.join(2), 2);
+        lowest.wish(0, 2, 0);
+        lowest.wish(0, 3, 3);
+        check.due("join(3): from room 0 into 2 with its cat", lowest.join(3), 23);
         AloneRooms wishes = Check.house("rooms 5;cat 2;person 1;wish 0 1 4;wish 0 2 1;");
         check.due("join(2): both wishes in one", wishes.join(2), 14);
         AloneRooms beats = Check.house("rooms 2;person 0;person 1;law 3;");

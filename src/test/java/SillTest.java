@@ -10,6 +10,7 @@ public final class SillTest {
         promise30Rent();
         promise31Drawn();
         promise31DrawnByHand();
+        promise31DrawnByRows();
         check.end();
     }
 
@@ -49,6 +50,13 @@ public final class SillTest {
         check.duePurses(y, 0, 0);
         check.due("count(4)", y.count(4), 0);
         check.due("count(6)", y.count(6), 0);
+        AloneRooms four = Check.house("rooms 5;door 0 1;door 1 2;door 2 3;door 3 4;person 0;person 1;person 2;person 3;");
+        four.spy(0, 1);
+        four.spy(4, 1);
+        check.due("fits() of four: to 1, 0, 1, 4", four.fits(), 1);
+        check.due("was(1, 0)", four.was(1, 0), 1);
+        check.due("was(3, 4)", four.was(3, 4), 1);
+        check.due("was(0, 1)", four.was(0, 1), 0);
     }
 
     private static void promise28FitsByLaw() {
@@ -143,9 +151,33 @@ public final class SillTest {
         check.due("drawn(0, 2, 0) in an odd beat", x.drawn(0, 2, 0), 2);
         check.due("standing()", x.standing(), Check.at(1, 1));
         check.due("count(4)", x.count(4), 1);
+        AloneRooms cat = Check.house("rooms 2;door 0 1;cat 0;person 0;law 1;");
+        check.due("drawn(0, 3, 0): with the cat", cat.drawn(0, 3, 0), 0);
+        check.due("drawn(0, 4, 0): to room 1", cat.drawn(0, 4, 0), 1);
+        AloneRooms four = Check.house("rooms 2;door 0 1;person 1;person 1;person 1;person 1;law 1;");
+        check.due("drawn(0, 1, 0): to 0, 0, 0, 1", four.drawn(0, 1, 0), 1);
+        check.due("drawn(0, 1, 1)", four.drawn(0, 1, 1), 2);
         AloneRooms three = Check.house("rooms 3;door 0 1;door 1 2;person 1;law 1;");
         // 12345 / 65536 is 0: room 0; 21468 by 2 leaves 0: room 0; 9988 by 2 leaves 0; 22117 by 2 leaves 1: room 1
         check.due("drawn(0, 4, 0)", three.drawn(0, 4, 0), 4);
         check.due("drawn(0, 4, 1)", three.drawn(0, 4, 1), 1);
+    }
+
+    /** Rows that were reckoned apart, for 0 to 20 beats. */
+    private static void promise31DrawnByRows() {
+        AloneRooms one = Check.house("rooms 4;door 0 1;door 1 2;door 2 3;cat 0;cat 2;person 1;law 1;");
+        dueRow(one, 0, 0, 0, 0, 0, 0, 1, 1, 2, 3, 4, 4, 4, 5, 6, 7, 7, 8, 8, 8, 9, 9, 10);
+        dueRow(one, 7, 0, 0, 1, 1, 2, 2, 3, 4, 4, 5, 6, 7, 8, 9, 9, 10, 11, 11, 11, 12, 12, 13);
+        dueRow(one, 999999, 0, 0, 1, 1, 1, 1, 1, 2, 3, 4, 4, 5, 6, 7, 8, 9, 9, 9, 10, 10, 11, 11);
+        AloneRooms two = Check.house("rooms 4;door 0 1;door 1 2;door 2 3;person 0;person 3;law 1;");
+        dueRow(two, 31, 0, 0, 2, 4, 4, 4, 6, 8, 10, 10, 12, 12, 12, 14, 16, 18, 20, 20, 20, 22, 24, 26);
+        dueRow(two, 31, 1, 2, 2, 2, 1, 1, 2, 2, 2, 1, 2, 1, 1, 2, 2, 2, 2, 1, 1, 2, 2, 2);
+        dueRow(two, 500000, 1, 2, 2, 2, 2, 2, 2, 2, 1, 2, 2, 2, 2, 2, 2, 2, 1, 1, 2, 1, 1, 2);
+    }
+
+    private static void dueRow(AloneRooms x, int seed, int what, int... row) {
+        for (int y = 0; y < row.length; y++) {
+            check.due("drawn(" + seed + ", " + y + ", " + what + ")", x.drawn(seed, y, what), row[y]);
+        }
     }
 }

@@ -57,6 +57,9 @@ public final class TextTest {
         check.due("digest()", x.digest(), Check.digestOf(3, 2, 2, 1, 0, 0, 0, 0, 4, Check.at(2, 1),
                 0, -1, 2, -1, -1, 0, -1, -1, -1, 0,
                 999, 0, 2, 0, 0, 0, 5, 0, 0, 1, 2, 0));
+        AloneRooms low = Check.house("rooms 2;sill 1 7;sill 1 0;law 3;law 0;");
+        check.due("sill(1) told 0", low.sill(1), 0);
+        check.due("law told 0", low.law(1), 0);
         AloneRooms twice = Check.house("rooms 2;door 0 1;door 1 0;cat 1;cat 1;sill 0 5;sill 0 6;"
                 + "person 0;wish 0 1 0;wish 0 1 1;law 1;law 2;");
         check.due("digest(), told twice", twice.digest(), Check.digestOf(2, 1, 1, 1, 0, 0, 0, 0, 2, 0,
@@ -107,6 +110,10 @@ public final class TextTest {
         dueFault("  room 3;", 2);
         dueFault("roomss 3;", 0);
         dueFault("Rooms 3;", 0);
+        dueFault("zooms 3;", 0);
+        dueFault("rooms 3;rat 1;", 8);
+        dueFault("rooms 3;lay 1;", 8);
+        dueFault("rooms 3;law 10;", 12);
         dueFault("rooms 0;", 6);
         dueFault("rooms 6;", 6);
         dueFault("rooms ;", 6);
@@ -164,6 +171,14 @@ public final class TextTest {
         dueFault("rooms 3;sill 0 999", 18);
         dueFault("rooms 3;person 0;wish 0 1 ", 26);
         dueFault("rooms 3;person 0;person 0;person 0;person ", 42);
+        String items = "rooms 2;" + "sill 0 1;cat 1 ;".repeat(11);
+        dueFault(items + " ".repeat(10) + "sill 1", 200);
+        dueFault(items + " ".repeat(13) + "cat", 200);
+        AloneRooms x = new AloneRooms();
+        Check.type(x, "rooms 12");
+        x.clear();
+        Check.type(x, "rooms 1");
+        check.due("read(): what was cleared is gone", x.read(), -10 - 7);
     }
 
     private static void promise11AFaultChangesNothing() {
