@@ -459,10 +459,10 @@ public final class AloneRooms {
         return true;
     }
 
-    /** The ways of the next beat that leave what was told; of a person, only those where he is alone in the room. */
+    /** The ways of the next beat that leave what was told; if one is named, only where he is alone in the room. */
     private int countFits(int person, int room) {
         trial.copy(house);
-        int many = ways.onward(house, house.where, house.everywhere());
+        int many = ways.onward(house, house.where);
         int fits = 0;
         for (int w = 0; w < many; w++) {
             trial.remember();
@@ -810,11 +810,11 @@ public final class AloneRooms {
             return begin();
         }
 
-        /** The standings behind a beat, all in rooms that are told: how many. */
-        int onward(House house, int from, int rooms) {
+        /** The standings behind a beat: how many. */
+        int onward(House house, int from) {
             people = house.people;
             for (int p = 0; p < people; p++) {
-                masks[p] = house.reach(roomOf(from, p)) & rooms;
+                masks[p] = house.reach(roomOf(from, p));
             }
             return begin();
         }
@@ -962,12 +962,12 @@ public final class AloneRooms {
                 }
                 spread(reached[i] >> 1, beatsOf[reached[i] & 1][reached[i] >> 1] + 1);
             }
-            return Math.max(beatsOf[0][goal], beatsOf[1][goal]);
+            return NONE;
         }
 
         private void spread(int from, int beats) {
             int[] known = beatsOf[sideOf(beats)];
-            int ends = beats > MOST_BEATS ? 0 : ways.onward(house, from, house.everywhere());
+            int ends = beats > MOST_BEATS ? 0 : ways.onward(house, from);
             for (int w = 0; w < ends; w++) {
                 int to = ways.at;
                 if (known[to] == NONE

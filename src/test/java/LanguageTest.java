@@ -44,6 +44,12 @@ public final class LanguageTest {
                 found.add(full);
             }
         }
+        for (Class<?> inside : AloneRooms.class.getDeclaredClasses()) {
+            check.due(inside + " is static", Modifier.isStatic(inside.getModifiers()) ? 1 : 0, 1);
+            for (Method m : inside.getDeclaredMethods()) {
+                check.due(m + " has a public name", names.contains(m.getName()) ? 1 : 0, 0);
+            }
+        }
         check.due("the face " + found, found.equals(new TreeSet<>(FACE)) ? 1 : 0, 1);
         check.due("final", Modifier.isFinal(AloneRooms.class.getModifiers()) ? 1 : 0, 1);
         check.due("constructors", AloneRooms.class.getDeclaredConstructors().length, 1);

@@ -128,6 +128,9 @@ public final class PlanTest {
         dueLeast(four, 4, 0, Check.at(1, 1, 3, 3), Check.at(2, 2, 4, 4), Check.at(3, 3, 4, 4), Check.at(4, 3, 3, 4));
         check.due("standing()", apart.standing(), Check.at(0, 2));
         check.due("count(4)", apart.count(4), 0);
+        AloneRooms longer = Check.house("rooms 3;door 0 1;door 1 2;cat 2;person 1;law 1;wish 0 4 1;");
+        dueLeast(longer, 4, 1, 2, 2, 2, 1);
+        dueLeast(longer, 2, 0, 2, 2);
     }
 
     private static void promise22LeastKeepsWishes() {
@@ -203,7 +206,10 @@ public final class PlanTest {
             check.due("fewest apart by " + law, x.fewest(Check.at(0, 1)), apart[law]);
         }
         x.law(3);
+        check.due("fewest: together, behind an odd beat", x.fewest(Check.at(1, 1)), 1);
+        check.due("fewest: together, behind an even beat", x.fewest(Check.at(2, 2)), 2);
         x.beat(0);
+        check.due("fewest: together, behind an even beat", x.fewest(Check.at(1, 1)), 1);
         check.due("fewest from an odd beat", x.fewest(Check.at(0, 1)), 1);
         check.due("fewest from an odd beat", x.fewest(Check.at(0, 2)), 3);
         x.law(0);
