@@ -3,16 +3,23 @@ final class Check {
     private final String test;
     private int asked;
     private int wrong;
+    /** The document's words that are looked at, told with each answer that is not as due. */
+    private String words = "";
 
     Check(String test) {
         this.test = test;
+    }
+
+    /** The answers that follow are due by these words of a promise, or of the terms (0). DocumentTest reads these calls. */
+    void sentence(int promise, String words) {
+        this.words = (promise == 0 ? " (terms: " : " (promise " + promise + ": ") + words + ")";
     }
 
     void due(String call, long got, long want) {
         asked++;
         if (got != want) {
             wrong++;
-            System.out.println(test + ": " + call + " answered " + got + ", due is " + want);
+            System.out.println(test + ": " + call + " answered " + got + ", due is " + want + words);
         }
     }
 
