@@ -289,6 +289,17 @@ public final class EdgeBeatTest {
         check.due("digest(): all is as it was", x.digest(), before);
         check.dueSills(x, 9, 8, 7, 6, 5);
         check.duePurses(x, 0, 0, 0, 0);
+        x.law(1);
+        long[] ahead = new long[8];
+        for (int i = 0; i < 8; i++) {
+            ahead[i] = x.digest();
+            x.beat(i % 2 == 0 ? Check.at(1, 4, 4, 0) : Check.at(0, 3, 4, 1));
+        }
+        for (int i = 7; i >= 0; i--) {
+            x.undo();
+            check.due("digest() as ahead of beat " + (i + 1), x.digest(), ahead[i]);
+            check.due("purse(3), who lays each time", x.purse(3), -i);
+        }
         x.beat(x.standing());
         x.law(4);
         x.cat(1, true);

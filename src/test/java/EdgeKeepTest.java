@@ -68,6 +68,57 @@ public final class EdgeKeepTest {
         check.due("count(0): of the text that was typed last", x.count(0), 2);
         check.due("from(0) once more", x.from(0), 1);
         check.due("digest() of image 0", x.digest(), kept);
+        dueKeptOfAFullHouse();
+    }
+
+    /** All is told otherwise behind the image, so that nothing of it is left but in the image. */
+    private static void dueKeptOfAFullHouse() {
+        AloneRooms x = Check.house("rooms 5;door 0 1;door 3 4;cat 2;sill 0 1;sill 1 2;sill 2 3;sill 3 4;sill 4 5;"
+                + "person 0;person 1;person 3;person 4;law 1;");
+        tellAll(x, 0);
+        long[] kept = traced(x, 0);
+        tellAll(x, 1);
+        long[] others = traced(x, 1);
+        for (int i = 0; i < 2; i++) {
+            x.from(1 - i);
+            long[] want = i == 0 ? others : kept;
+            for (int back = 0; back <= 8; back++) {
+                check.due("digest() of image " + (1 - i) + ", " + back + " beats undone", x.digest(), want[back]);
+                x.undo();
+            }
+        }
+        x.from(0);
+        check.duePurses(x, -8, -8, -8, -8);
+    }
+
+    /** Eight beats, wishes, plans and readings that are one way or another. */
+    private static void tellAll(AloneRooms x, int way) {
+        x.scrap();
+        for (int i = 0; i < 8; i++) {
+            x.beat((i + way) % 2 == 0 ? Check.at(1, 0, 4, 3) : Check.at(0, 1, 3, 4));
+            x.plan((i + way) % 5);
+        }
+        for (int r = 0; r < 5; r++) {
+            x.lay(r, 10 * r + way);
+            x.spy(r, 20 * r + way);
+        }
+        for (int p = 0; p < 4; p++) {
+            for (int h = 1; h <= 4; h++) {
+                x.wish(p, h, (p + h + way) % 5);
+            }
+        }
+    }
+
+    /** Keeps an image, then undoes all: the digests, and it goes on from the image. */
+    private static long[] traced(AloneRooms x, int image) {
+        x.image(image);
+        long[] digests = new long[9];
+        for (int back = 0; back <= 8; back++) {
+            digests[back] = x.digest();
+            x.undo();
+        }
+        x.from(image);
+        return digests;
     }
 
     private static void imagesKeepWhatMayBeUndone() {
@@ -318,7 +369,8 @@ public final class EdgeKeepTest {
 
     private static void promise36People() {
         check.sentence(36, "of PEOPLE PURSE, WISHES of BEATS 1 .. 4 (NONE: none);");
-        AloneRooms x = Check.house("rooms 5;person 0;person 1;person 2;person 4;law 1;wish 0 1 0;wish 0 4 4;wish 3 1 1;wish 3 4 3;wish 2 2 2;wish 1 3 4;");
+        AloneRooms x = Check.house("rooms 5;person 0;person 1;person 2;person 4;law 1;"
+                + "wish 0 1 0;wish 0 4 4;wish 3 1 1;wish 3 4 3;wish 2 2 2;wish 1 3 4;");
         x.beat(x.standing());
         x.cat(2, true);
         x.beat(x.standing());

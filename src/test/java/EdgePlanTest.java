@@ -1,3 +1,4 @@
+import java.util.Random;
 import java.util.function.ToLongFunction;
 
 /** Boundaries of plans, evenings, searches and picks: promises 18 to 26, and their terms. */
@@ -191,6 +192,16 @@ public final class EdgePlanTest {
         x.law(1);
         dueRow(x, 1, 0, Check.at(4, 0));
         dueRow(x, 4, 0, Check.at(4, 0), Check.at(4, 0), Check.at(4, 0), Check.at(4, 0));
+        AloneRooms hermit = Check.house(ROW + "person 3;law 1;");
+        dueRow(hermit, 4, 4, 2, 1, 0, 0);
+        hermit.wish(0, 3, 4);
+        dueRow(hermit, 4, 4, 2, 3, 4, 3);
+        hermit.law(0);
+        dueRow(hermit, 4, 1, 3, 3, 4, 4);
+        AloneRooms apart = Check.house("rooms 5;door 0 1;door 3 4;person 1;person 4;law 1;");
+        dueRow(apart, 2, 4, Check.at(0, 3), Check.at(0, 3));
+        apart.wish(0, 1, 1);
+        dueRow(apart, 2, 4, Check.at(1, 3), Check.at(0, 3));
         AloneRooms order = Check.house("rooms 3;door 0 1;door 1 2;door 0 2;person 1;person 2;person 0;law 1;wish 2 1 2;");
         dueRow(order, 1, 0, Check.at(2, 2, 2));
         order.wish(2, 1, -1);
@@ -240,6 +251,11 @@ public final class EdgePlanTest {
         check.due("fewest here", x.fewest(x.standing()), 0);
         AloneRooms far = Check.house("rooms 5;door 0 1;door 0 3;door 1 2;door 3 4;cat 0;person 2;person 1;person 2;person 4;law 4;");
         check.due("fewest: a far one", far.fewest(Check.at(0, 4, 3, 2)), 11);
+        AloneRooms corner = Check.house(ROW + "cat 0;cat 1;cat 2;cat 3;cat 4;person 0;person 0;person 0;person 0;");
+        for (int law = 0; law < 5; law++) {
+            corner.law(law);
+            check.due("fewest: of all standings the last, by " + law, corner.fewest(2340), 4);
+        }
         AloneRooms alone = Check.house("rooms 2;door 0 1;person 0;law 1;");
         check.due("fewest: none are laid by no beat", alone.fewest(0), 0);
         check.due("fewest(1)", alone.fewest(1), -1);
@@ -354,6 +370,75 @@ public final class EdgePlanTest {
         AloneRooms lost = Check.house("rooms 3;door 1 2;person 0;person 0;law 1;wish 0 1 2;wish 1 1 2;");
         check.due("join(1): both through the other one's door, from a room that has none", lost.join(1), 1);
         check.due("least(1, 0): now", lost.least(1, 0), -1);
+        AloneRooms third = Check.house("rooms 5;person 0;person 0;person 2;law 1;wish 2 1 4;wish 2 2 4;wish 2 3 4;wish 2 4 4;");
+        for (int h = 1; h <= 4; h++) {
+            check.due("join(" + h + "): wishes of the last one of three", third.join(h), 24);
+        }
+        Random random = new Random(26);
+        for (int i = 0; i < 300; i++) {
+            dueJoined(random);
+        }
+    }
+
+    /** A drawn house, and each house that it becomes when two of its rooms are told as one. */
+    private static void dueJoined(Random random) {
+        int n = 2 + random.nextInt(4);
+        boolean[][] doors = new boolean[n][n];
+        for (int a = 0; a < n; a++) {
+            for (int b = a + 1; b < n; b++) {
+                doors[a][b] = random.nextInt(5) < 2;
+            }
+        }
+        boolean[] cats = new boolean[n];
+        cats[random.nextInt(n)] = random.nextBoolean();
+        int[] rooms = new int[1 + random.nextInt(3)];
+        int[][] wishes = new int[rooms.length][5];
+        for (int p = 0; p < rooms.length; p++) {
+            rooms[p] = random.nextInt(n);
+            for (int h = 1; h <= 4; h++) {
+                wishes[p][h] = random.nextInt(3) == 0 ? random.nextInt(n) : -1;
+            }
+        }
+        int law = random.nextInt(5);
+        int h = 1 + random.nextInt(4);
+        AloneRooms now = joined(doors, cats, rooms, wishes, law, -1, -1);
+        int fewest = now.least(h, 0) == -1 ? HIGHEST : now.least(h, 0);
+        int pair = -1;
+        for (int a = 0; a < n; a++) {
+            for (int b = a + 1; b < n; b++) {
+                int least = joined(doors, cats, rooms, wishes, law, a, b).least(h, 0);
+                if (least != -1 && least < fewest) {
+                    fewest = least;
+                    pair = 10 * a + b;
+                }
+            }
+        }
+        check.due("join(" + h + ") of a drawn house", now.join(h), pair);
+    }
+
+    /** The house in which room b is a part of room a. */
+    private static AloneRooms joined(boolean[][] doors, boolean[] cats, int[] rooms, int[][] wishes, int law, int a, int b) {
+        AloneRooms x = new AloneRooms();
+        x.rooms(doors.length);
+        x.law(law);
+        for (int c = 0; c < doors.length; c++) {
+            for (int d = c + 1; d < doors.length; d++) {
+                if (doors[c][d]) {
+                    x.door(c == b ? a : c, d == b ? a : d, true);
+                }
+            }
+            if (cats[c]) {
+                x.cat(c == b ? a : c, true);
+            }
+        }
+        for (int p = 0; p < rooms.length; p++) {
+            x.person(rooms[p] == b ? a : rooms[p]);
+            for (int h = 1; h <= 4; h++) {
+                int wish = wishes[p][h];
+                x.wish(p, h, wish == b ? a : wish);
+            }
+        }
+        return x;
     }
 
     private static void joinIsFewerThanNow() {
