@@ -25,6 +25,7 @@ public final class LanguageTest {
         theFace();
         theConstants();
         theText();
+        theSizes();
         noCallMakesObjects();
         check.end();
     }
@@ -90,6 +91,42 @@ public final class LanguageTest {
         }
         check.due("no more than twelve classes", many <= 12 ? 1 : 0, 1);
         check.due("bytes above 127", text.chars().filter(c -> c > 127).count(), 0);
+    }
+
+    /** Rule 11: parameters and lines of a method, fields of a class. */
+    private static void theSizes() throws Exception {
+        dueSizes(AloneRooms.class);
+        for (Class<?> inside : AloneRooms.class.getDeclaredClasses()) {
+            dueSizes(inside);
+        }
+        String end = "";
+        int lines = 0;
+        int methods = 0;
+        for (String line : Files.readAllLines(Path.of("src/main/java/AloneRooms.java"))) {
+            Matcher head = Pattern.compile("((?: {4}){1,2})[a-zA-Z][^;=]*\\) \\{").matcher(line);
+            if (head.matches() && end.isEmpty()) {
+                end = head.group(1) + "}";
+                lines = 0;
+            }
+            lines++;
+            if (!end.isEmpty() && line.equals(end)) {
+                check.due("a method of " + lines + " lines", lines <= 60 ? 1 : 0, 1);
+                end = "";
+                methods++;
+            }
+        }
+        check.due(methods + " methods were seen", methods >= FACE.size() ? 1 : 0, 1);
+    }
+
+    private static void dueSizes(Class<?> kind) {
+        for (Method m : kind.getDeclaredMethods()) {
+            check.due(m + " has seven parameters at most", m.getParameterCount() <= 7 ? 1 : 0, 1);
+        }
+        int fields = 0;
+        for (Field f : kind.getDeclaredFields()) {
+            fields += Modifier.isStatic(f.getModifiers()) ? 0 : 1;
+        }
+        check.due(kind + " has " + fields + " fields", fields <= 20 ? 1 : 0, 1);
     }
 
     /** The room of a run is small, so all rows are made with the object. */
